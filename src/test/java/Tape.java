@@ -15,8 +15,9 @@ final class Tape {
         return rows;
     }
 
-    /** Puts a text on an empty tape. */
+    /** Puts a text on the tape, in place of all that it had. */
     static void put(MoonWash moon, String text) {
+        moon.end(0);
         for (int[] r : rows(text)) {
             moon.feed(r[0], r[1], r[2], r[3], r[4]);
         }

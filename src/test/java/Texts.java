@@ -20,6 +20,20 @@ final class Texts {
         return broken(lines(oneIn(6) ? 17 : 6, false));
     }
 
+    /** A right text that gives a run something to wash with. */
+    String begin() {
+        StringBuilder b = new StringBuilder(oneIn(2) ? "spring 20;water 99" : "water 60");
+        for (int i = 0; i < 3 + below(4); i++) {
+            b.append(";soap ").append(below(6)).append(" water ").append(1 + below(oneIn(4) ? 30 : 6)).append(" rough ").append(below(4));
+            b.append(" takes ").append("abcde", i % 4, i % 4 + 1 + below(2));
+        }
+        for (int i = 0; i < 4; i++) {
+            b.append(";part ").append(below(8)).append(" grey ").append(below(10)).append(" thin ").append(below(10));
+            b.append(" stains ").append("edcba", below(2), 2 + below(4));
+        }
+        return b.toString();
+    }
+
     String law() {
         return broken(lines(oneIn(6) ? 15 : 5, true));
     }
