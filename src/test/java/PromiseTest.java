@@ -314,6 +314,13 @@ public final class PromiseTest {
         wrongHouse("spring 1 1", 9);
         wrongHouse("spring", 6);
         wrongHouse("springs 1", 0);
+        wrongHouse("springz 1", 0);
+        wrongHouse("aspring 1", 0);
+        wrongHouse("spring 1z", 8);
+        wrongHouse("spring 1#", 8);
+        wrongHouse("#spring 1", 0);
+        wrongHouse(times(398, "").replace(';', ' ') + " ;;", 398);
+        wrongHouse(times(401, ""), 0);
         wrongHouse("Spring 1", 0);
         wrongHouse("spring\t1", 6);
         wrongHouse("spring 21", 7);
@@ -373,6 +380,12 @@ public final class PromiseTest {
         is("12 lines", law(m, times(12, "shine 0")), 12);
         is("in place of the one before", m.part(0, 7), 9);
         is("dries as before", m.part(0, 8), 3);
+        StringBuilder longest = new StringBuilder("dry 1 if 0<0");
+        while (longest.length() < 400) {
+            longest.append("+1");
+        }
+        is("400 bytes", law(m, longest.toString()), 1);
+        is("they hold", m.part(0, 8), 4);
         is("20 at most", law(m, "shine 11;shine 1"), 2);
         is("white", m.part(0, 7), 20);
         law(m, "shine 20;dull 20;dull 10");
@@ -527,6 +540,8 @@ public final class PromiseTest {
         is("never without soaps", m.part(2, 10), 12);
         MoonWash dark = with("", "dull 9");
         is("share without light", dark.part(0, 9), 0);
+        is("all the light", with("", "dull 9 if part>0").part(0, 9), 100);
+        is("9 in 72", new MoonWash().part(0, 9), 12);
         noPlace("part -1", () -> m.part(-1, 0));
         noPlace("part 8", () -> m.part(8, 11));
         noWhat("what 11", () -> m.part(7, 11));
@@ -843,6 +858,12 @@ public final class PromiseTest {
         w.wash(0, 0);
         is("as if not wet", w.least(120, NONE), 0);
         is("of three, as if not wet", w.least(121, NONE), 30);
+        MoonWash one = with("soap 0 water 1 rough 0", "dull 9 if part>0 and thin<1");
+        is("one part is enough", one.least(9, NONE), 0);
+        is("then none is washed", one.least(9, 7), NONE);
+        is("one more", one.least(10, NONE), 1);
+        is("part 6 is not", one.least(10, 6), NONE);
+        is("the first way washes the last", one.least(10, 7), 0);
         is("all of 20 are 160", with("", "shine 20").least(160, NONE), 0);
         MoonWash dear = with("soap 9 water 30 rough 0;water 0", "shine 11;dull 11 if thin<1");
         is("eight times 30", dear.least(160, NONE), 240);
@@ -1124,6 +1145,7 @@ public final class PromiseTest {
         is("gone by, and 41 now in sight", m.late(0) & 15, 12);
         is("a told night is now", m.late(0) >> 7, 1 - (m.light() >= 99 ? 1 : 0));
         is("without dues", new MoonWash().late(9), 0);
+        is("two of one night", with("due 2 light 80;due 2 light 50;due 2 light 81;due 1 light 72").late(0), 5);
         noNumber("10", () -> m.late(10));
         noNumber("-1", () -> m.late(-1));
         promise(33);
@@ -1229,6 +1251,9 @@ public final class PromiseTest {
             is("most", m.span(n, true), most);
         }
         is("the seed stays", m.seed(1), 99);
+        MoonWash dark = with("", "dull 20");
+        is("no light at all", dark.span(3, true) * 10 + dark.span(3, false), 0);
+        is("most there can be", with("", "shine 20").span(3, false), 160);
         noNumber("41", () -> m.span(41, false));
         noNumber("-1", () -> m.span(-1, true));
         promise(39);
