@@ -515,6 +515,12 @@ public final class MoonWash {
         if (!now.moon.isHung(part)) {
             return 0;
         }
+        // The law sees a peg by its wind alone: pegs of one wind need no second guess.
+        for (int same = 0; same < peg; same++) {
+            if (now.moon.wind[same] == now.moon.wind[peg]) {
+                return pegPlan.nightsOn[part][same];
+            }
+        }
         guess.become(now.moon);
         guess.pegOf[part] = peg;
         return guess.nightsTillDry(law, part, damp);
@@ -1615,7 +1621,7 @@ public final class MoonWash {
 
     /** The pegs by which all is dry soonest, found by the set of pegs that earlier parts have. */
     private static final class PegPlan {
-        private final int[][] nightsOn = new int[PARTS][PARTS];
+        final int[][] nightsOn = new int[PARTS][PARTS];
         // By the pegs given away: the nights that the parts without one need at least.
         private final int[] longest = new int[ALL_PARTS + 1];
 
