@@ -11,6 +11,7 @@ public final class AskEdgeTest extends Check {
         best();
         least();
         leastWay();
+        leastSoaps();
         leastAsIf();
         never();
         soaps();
@@ -25,6 +26,7 @@ public final class AskEdgeTest extends Check {
         row();
         share();
         darkest();
+        darkestOfAll();
         tide();
         late();
         enough();
@@ -91,6 +93,8 @@ public final class AskEdgeTest extends Check {
             m.wash(0, 0);
             is("would", m.would(0, 0), 12);
             is("as it is", m.part(0, 7), 9);
+            law(m, "shine 1 if wet+1>0;shine 2 if wet+1<2");
+            is("just 0", m.would(0, 0), 12);
         });
         holds("WOULD: GREY less (0 at least)", () -> {
             MoonWash m = with("soap 5 water 1 rough 0;part 0 grey 6 thin 0;part 1 grey 5 thin 0;part 2 grey 4 thin 0");
@@ -212,6 +216,35 @@ public final class AskEdgeTest extends Check {
         });
     }
 
+    private static void leastSoaps() {
+        holds("LEAST WATER: by the sixth SOAP", () -> {
+            MoonWash m = with(times(5, "soap 1 water 9 rough 0") + ";soap 9 water 8 rough 0;part 0 grey 9 thin 0;part 7 grey 9 thin 0");
+            is("water", m.least(72, NONE), 16);
+            is("part 0", m.least(72, 0), 5);
+            is("part 1", m.least(72, 1), NONE);
+            is("part 7", m.least(72, 7), 5);
+        });
+        holds("LEAST WATER: a SOAP thrown away washes no more", () -> {
+            MoonWash m = with("soap 1 water 9 rough 0;soap 9 water 1 rough 0;part 0 grey 9 thin 0");
+            is("by the second", m.least(72, NONE), 1);
+            m.drop(1);
+            is("not any more", m.least(72, NONE), NONE);
+            is("by the first", m.least(64, NONE), 9);
+            MoonWash six = with(times(5, "soap 1 water 9 rough 0") + ";soap 9 water 8 rough 0;part 0 grey 9 thin 0");
+            is("by the sixth", six.least(72, NONE), 8);
+            six.drop(5);
+            is("not any more", six.least(72, NONE), NONE);
+        });
+        holds("LEAST WATER: behind what is enough none is WASHED", () -> {
+            MoonWash m = with(SOAP, "dull 9 if part>0 and thin<1");
+            is("water", m.least(9, NONE), 0);
+            for (int part = 0; part < 8; part++) {
+                is("part " + part, m.least(9, part), NONE);
+            }
+            is("one more", m.least(10, 7), 0);
+        });
+    }
+
     private static void leastAsIf() {
         holds("LEAST WATER: all others as if they were HUNG and not WET", () -> {
             MoonWash m = with(SOAP, "shine 1 if hung;shine 1 if wet<1");
@@ -232,6 +265,14 @@ public final class AskEdgeTest extends Check {
             is("of none", m.part(1, 10), 0);
             m.drop(1);
             is("one thrown away", m.part(0, 10), 26);
+        });
+        holds("NEVER: the sixth SOAP, and without it", () -> {
+            MoonWash m = with(takes("a", "", "", "", "", "b") + ";part 0 grey 0 thin 0 stains abc");
+            is("with it", m.part(0, 10), 4);
+            is("soaps", m.soaps(0), 33);
+            m.drop(5);
+            is("without it", m.part(0, 10), 6);
+            is("soaps", m.soaps(0), 1);
         });
         holds("NEVER: all without SOAPS, none with a SOAP for all", () -> {
             is("without", with("part 0 grey 0 thin 0 stains abcde").part(0, 10), 31);
@@ -337,8 +378,12 @@ public final class AskEdgeTest extends Check {
             m.move(0, 7);
             way(m, 0, "01234567");
         });
-        holds("SOONEST: the first such way: one has the only PEG", () ->
-                way(wet(with(SOAP + ";" + winds("93333333")), 7), 0, "12345670"));
+        holds("SOONEST: the first such way: one has the only PEG", () -> {
+            way(wet(with(SOAP + ";" + winds("93333333")), 7), 0, "12345670");
+            is("nights", wet(with(SOAP + ";" + winds("93333333")), 7).soonest(0, NONE), 1);
+            way(wet(with(SOAP + ";" + winds("33333339")), 0), 0, "70123456");
+            is("nights", wet(with(SOAP + ";" + winds("33333339")), 0).soonest(0, NONE), 1);
+        });
         holds("SOONEST: the first such way: PART 0 the least of those that can be", () -> {
             way(wet(with(SOAP + ";" + winds("05550000")), 0), 0, "10234567");
             way(wet(with(SOAP + ";" + winds("05550000")), 0, 1, 2), 0, "12304567");
@@ -568,6 +613,23 @@ public final class AskEdgeTest extends Check {
             is("by one", with("part 3 grey 1 thin 0;part 6 grey 2 thin 0").darkest(), 6);
             is("of one more the least", with("part 0 grey 1 thin 0;part 6 grey 2 thin 0;part 7 grey 2 thin 0").darkest(), 6);
         });
+    }
+
+    private static void darkestOfAll() {
+        holds("DARKEST: each of 0 to 7", () -> {
+            for (int part = 0; part < 8; part++) {
+                is("part " + part, with("part " + part + " grey 1 thin 0").darkest(), part);
+                is("from it on", with(greyFrom(part)).darkest(), part);
+            }
+        });
+    }
+
+    private static String greyFrom(int part) {
+        StringBuilder b = new StringBuilder("spring 5");
+        for (int p = part; p < 8; p++) {
+            b.append(";part ").append(p).append(" grey 1 thin 0");
+        }
+        return b.toString();
     }
 
     private static void tide() {

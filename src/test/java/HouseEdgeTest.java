@@ -156,6 +156,9 @@ public final class HouseEdgeTest extends Check {
             wrongHouse("springs 1", 0);
             wrongHouse("sprin 1", 0);
             wrongHouse("aspring 1", 0);
+            wrongHouse("springa 1", 0);
+            wrongHouse("springz 1", 0);
+            wrongHouse("zspring 1", 0);
             wrongHouse("spring 1;springspring 1", 9);
             wrongHouse("part 0 greya 1 thin 1", 7);
             wrongHouse(SOAP + " takesab", 23);
@@ -342,6 +345,11 @@ public final class HouseEdgeTest extends Check {
         holds("the last byte of 400", () -> {
             wrongHouse("spring 7" + blanks(391) + "x", 399);
             wrongHouse(blanks(399) + ";", 399);
+        });
+        holds("400 bytes that are a thing each", () -> {
+            wrongHouse(";".repeat(400), 0);
+            wrongHouse("#".repeat(400), 0);
+            wrongHouse("spring1" + ";".repeat(393), 8);
         });
     }
 

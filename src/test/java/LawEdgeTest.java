@@ -14,6 +14,7 @@ public final class LawEdgeTest extends Check {
         meaning();
         seen();
         full();
+        fullJoined();
         white();
         light();
         dries();
@@ -86,6 +87,25 @@ public final class LawEdgeTest extends Check {
             is("none", law(m, ""), 0);
             is("lines", m.count(3), 0);
             is("white", m.part(0, 7), 9);
+        });
+        holds("in place of the one before: whatever was before, one after another", () -> {
+            MoonWash m = new MoonWash();
+            law(m, "shine 1 if 2<1;shine 2 if 2<1 or 1<2");
+            law(m, "shine 4 if 1<2 and 2<1");
+            law(m, "shine 5");
+            is("without a condition", m.part(0, 7), 14);
+            law(m, "");
+            is("without a LINE", m.part(0, 7), 9);
+            law(m, "dry 2;shine 3 if hung");
+            is("dries", m.part(0, 8), 5);
+            is("white", m.part(0, 7), 12);
+        });
+        holds("in place of the one before: also of the longest", () -> {
+            MoonWash m = new MoonWash();
+            for (int i = 0; i < 9; i++) {
+                law(m, ("shine " + i + " if 1<0" + "+1".repeat(300)).substring(0, 400));
+                is("white of " + i, m.part(0, 7), 9 + i);
+            }
         });
         holds("(Without a text no LINE holds.)", () -> {
             MoonWash m = new MoonWash();
@@ -326,6 +346,8 @@ public final class LawEdgeTest extends Check {
     private static void wordsAndBlanks() {
         holds("Words are as long as a to z go on", () -> {
             wrongLaw("shines 1", 0);
+            wrongLaw("shinez 1", 0);
+            wrongLaw("ashine 1", 0);
             wrongIf("fullhung", 0);
             wrongIf("notfull", 0);
             wrongIf("full andhung", 5);
@@ -362,6 +384,12 @@ public final class LawEdgeTest extends Check {
             wrongLaw("shine 1 if" + blanks(390), 400);
             wrongLaw(blanks(399) + "(", 399);
             wrongLaw("shine 1" + blanks(392) + ";", 400);
+        });
+        holds("400 bytes that are a thing each", () -> {
+            wrongLaw(";".repeat(400), 0);
+            wrongLaw("shine 1" + ";".repeat(393), 8);
+            wrongIf("(".repeat(389), 6);
+            wrongIf("1<00" + "+1".repeat(192) + "+", 389);
         });
     }
 
@@ -434,6 +462,10 @@ public final class LawEdgeTest extends Check {
             no("not 2<1 and 2<1");
             yes("not 1<2 or 1<2");
             no("not (1<2 or 1<2)");
+            yes("1<2 and not 2<1");
+            yes("2<1 or not 2<1");
+            no("1<2 and not 1<2");
+            no("2<1 or not (2<1 or not 2<1)");
             yes("not not 1<2");
             no("not not not not not 1<2");
         });
@@ -511,6 +543,10 @@ public final class LawEdgeTest extends Check {
             is("taken down", holdsOf(m, 7, "hung"), false);
             is("another", holdsOf(m, 6, "hung"), true);
             is("also wet", holdsOf(wetAndHung(), 0, "hung"), true);
+            is("not hung of one that hangs", holdsOf(m, 6, "not hung"), false);
+            is("not hung of one that does not", holdsOf(m, 7, "not hung"), true);
+            is("and", holdsOf(m, 7, "1<2 and hung"), false);
+            is("or", holdsOf(m, 7, "2<1 or hung"), false);
         });
     }
 
@@ -526,6 +562,20 @@ public final class LawEdgeTest extends Check {
             MoonWash m = with("", "shine 1 if full");
             for (int night = 0; night < 100; night++) {
                 is("white in night " + night, m.part(0, 7), night == 14 || night == 42 || night == 70 || night == 98 ? 10 : 9);
+                m.nights(1);
+            }
+        });
+    }
+
+    private static void fullJoined() {
+        holds("full: not, and, or with it", () -> {
+            MoonWash m = new MoonWash();
+            for (int night = 0; night < 16; night++) {
+                boolean due = night == 14;
+                is("not full", holdsOf(m, 0, "not full"), !due);
+                is("not not full", holdsOf(m, 0, "not not full"), due);
+                is("and", holdsOf(m, 0, "full and 1<2"), due);
+                is("or", holdsOf(m, 0, "full or 2<1"), due);
                 m.nights(1);
             }
         });

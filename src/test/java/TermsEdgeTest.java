@@ -140,6 +140,18 @@ public final class TermsEdgeTest extends Check {
             m.wash(4, 0);
             is("wet again", m.part(4, 2), 9);
         });
+        holds("WET 0 to 9: 1 is WET, 0 is not", () -> {
+            MoonWash m = with(SOAP + ";wind 7 0", "dry 4 if wet>8;dry 4 if wet>4;dry 1 if wet<2 and night>0");
+            m.wash(7, 0);
+            m.hang(7, true);
+            m.seed(Draws.seedWith(10, 0, 1, 0, 1, 0, 10, 0));
+            m.nights(1);
+            is("wet", m.part(7, 2), 1);
+            is("parts that are wet", m.count(11), 128);
+            m.nights(1);
+            is("wet", m.part(7, 2), 0);
+            is("parts that are wet", m.count(11), 0);
+        });
         holds("WET 0 to 9: not below 0", () -> {
             MoonWash m = with(SOAP, "dry 20");
             m.wash(4, 0);
