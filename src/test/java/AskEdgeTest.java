@@ -110,6 +110,12 @@ public final class AskEdgeTest extends Check {
         });
         holds("WOULD: STAINS that it TAKES", () ->
                 is("would", with("soap 0 water 1 rough 0 takes ab;part 0 grey 0 thin 0 stains bc").would(0, 0), 8));
+        holds("WOULD: by that SOAP alone", () -> {
+            MoonWash m = with("soap 1 water 1 rough 0 takes ab;soap 4 water 1 rough 2 takes bc;part 3 grey 6 thin 1 stains abcd",
+                    "shine 5 if thin>3;shine 6 if thin<3");
+            is("by 0", m.would(3, 0), 9 - 5 - 2 + 6);
+            is("by 1", m.would(3, 1), 9 - 2 - 2 + 5);
+        });
         holds("WOULD: WHITE 0 at least, 20 at most", () -> {
             is("20", with(SOAP, "shine 20").would(0, 0), 20);
             is("0", with(SOAP, "dull 20").would(0, 0), 0);
@@ -325,6 +331,12 @@ public final class AskEdgeTest extends Check {
         holds("WASHES: of 1 and of 9", () -> {
             is("9 by 1", with("soap 1 water 1 rough 0;part 0 grey 9 thin 0").washes(0, 0), 9);
             is("9 by 9", with("soap 9 water 1 rough 0;part 0 grey 9 thin 0").washes(0, 0), 1);
+        });
+        holds("WASHES: by that SOAP alone", () -> {
+            MoonWash m = with("soap 2 water 1 rough 0;soap 0 water 1 rough 0;soap 5 water 1 rough 0;part 0 grey 9 thin 0");
+            is("by 0", m.washes(0, 0), 5);
+            is("by 1", m.washes(0, 1), NONE);
+            is("by 2", m.washes(0, 2), 2);
         });
         holds("WASHES: WATER of THE TROUGH not looked at", () ->
                 is("washes", with("water 0;soap 1 water 30 rough 0;part 0 grey 9 thin 0").washes(0, 0), 9));
@@ -716,6 +728,12 @@ public final class AskEdgeTest extends Check {
                 is("part " + part, m.wears(part, 0), due[part]);
             }
             is("by 1", m.wears(0, 1), 9);
+        });
+        holds("WEARS: by that SOAP alone; WATER of THE TROUGH not looked at", () -> {
+            MoonWash m = with("water 0;soap 0 water 30 rough 0;soap 0 water 30 rough 1;soap 0 water 30 rough 2;part 0 grey 0 thin 2");
+            is("by 0", m.wears(0, 0), 7);
+            is("by 1", m.wears(0, 1), 4);
+            is("by 2", m.wears(0, 2), 3);
         });
         holds("WEARS: (0, if it is)", () -> is("worn", with(SOAP + ";part 0 grey 0 thin 9").wears(0, 0), 0));
     }

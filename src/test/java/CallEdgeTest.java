@@ -370,6 +370,13 @@ public final class CallEdgeTest extends Check {
         });
         holds("wash: without SOAPS there is none", () ->
                 fails("soap", IndexOutOfBoundsException.class, x -> x.wash(0, 0), new MoonWash()));
+        holds("wash: less WATER than that SOAP's", () -> {
+            MoonWash m = with("water 5;soap 0 water 5 rough 0;soap 0 water 6 rough 0");
+            fails("6", IllegalStateException.class, x -> x.wash(0, 1), m);
+            is("5", m.wash(0, 0), 0);
+            MoonWash other = with("water 5;soap 0 water 6 rough 0;soap 0 water 5 rough 0");
+            is("5", other.wash(0, 1), 0);
+        });
         holds("wash: STAINS that came out, as bits", () -> {
             MoonWash m = with("soap 0 water 1 rough 0 takes abcde;part 0 grey 0 thin 0 stains abcde;part 1 grey 0 thin 0 stains e");
             is("all", m.wash(0, 0), 31);

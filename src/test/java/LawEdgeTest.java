@@ -570,7 +570,8 @@ public final class LawEdgeTest extends Check {
     private static void fullJoined() {
         holds("full: not, and, or with it", () -> {
             MoonWash m = new MoonWash();
-            for (int night = 0; night < 16; night++) {
+            m.nights(13);
+            for (int night = 13; night <= 15; night++) {
                 boolean due = night == 14;
                 is("not full", holdsOf(m, 0, "not full"), !due);
                 is("not not full", holdsOf(m, 0, "not not full"), due);

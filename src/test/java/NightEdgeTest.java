@@ -4,6 +4,7 @@ public final class NightEdgeTest extends Check {
 
     public static void main(String[] args) {
         washed();
+        washedBySoap();
         washedThin();
         damp();
         dries();
@@ -72,6 +73,28 @@ public final class NightEdgeTest extends Check {
             is("hung", m.count(10), 254);
             m.wash(0, 0);
             is("nor when it was not", m.count(10), 254);
+        });
+    }
+
+    private static void washedBySoap() {
+        holds("a PART by a SOAP: by that one alone", () -> {
+            MoonWash m = with("soap 1 water 3 rough 0 takes ab;soap 4 water 9 rough 2 takes bc;part 3 grey 6 thin 1 stains abcd");
+            is("came out", m.wash(3, 1), 6);
+            is("water", m.count(6), 21);
+            is("grey", m.part(3, 0), 2);
+            is("thin", m.part(3, 1), 4);
+            is("stains", m.part(3, 3), 9);
+        });
+        holds("a PART by a SOAP: that PART alone", () -> {
+            MoonWash m = with("soap 9 water 1 rough 3 takes a;part 2 grey 3 thin 3 stains a;part 4 grey 3 thin 3 stains a");
+            m.wash(3, 0);
+            for (int part : new int[] {2, 4}) {
+                is("grey", m.part(part, 0), 3);
+                is("thin", m.part(part, 1), 3);
+                is("wet", m.part(part, 2), 0);
+                is("stains", m.part(part, 3), 1);
+                is("hung", m.part(part, 4), 1);
+            }
         });
     }
 

@@ -724,8 +724,8 @@ public final class PromiseTest {
         int[] stains = new int[8];
         int[] grey = new int[8];
         int hung = 255;
-        for (int night = 1; night <= 60; night++) {
-            if (night % 7 == 0) {
+        for (int night = 1; night <= 24; night++) {
+            if (night % 3 == 0) {
                 m.hang(night % 8, true);
                 hung |= 1 << night % 8;
             }
