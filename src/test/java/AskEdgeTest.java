@@ -111,10 +111,10 @@ public final class AskEdgeTest extends Check {
         holds("WOULD: STAINS that it TAKES", () ->
                 is("would", with("soap 0 water 1 rough 0 takes ab;part 0 grey 0 thin 0 stains bc").would(0, 0), 8));
         holds("WOULD: by that SOAP alone", () -> {
-            MoonWash m = with("soap 1 water 1 rough 0 takes ab;soap 4 water 1 rough 2 takes bc;part 3 grey 6 thin 1 stains abcd",
+            MoonWash m = with("soap 1 water 1 rough 0 takes ab;soap 4 water 1 rough 2 takes bcd;part 3 grey 6 thin 1 stains abcd",
                     "shine 5 if thin>3;shine 6 if thin<3");
             is("by 0", m.would(3, 0), 9 - 5 - 2 + 6);
-            is("by 1", m.would(3, 1), 9 - 2 - 2 + 5);
+            is("by 1", m.would(3, 1), 9 - 2 - 1 + 5);
         });
         holds("WOULD: WHITE 0 at least, 20 at most", () -> {
             is("20", with(SOAP, "shine 20").would(0, 0), 20);
